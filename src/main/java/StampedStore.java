@@ -29,6 +29,7 @@ public final class StampedStore {
     private static final int LOG_ENTRIES = 60;
     private static final int VERSIONS_KEPT = 3;
     private static final int MAJORITY = 2;
+    private static final int END_OF_TIME = 2147483647;
 
     private static final int ACTIVE = 0;
     private static final int PREPARING = 1;
@@ -172,7 +173,7 @@ public final class StampedStore {
             return WAIT;
         }
         reader.noteRead(key, nodes[ready].epoch);
-        return valueAt(nodes[ready].log, key, Integer.MAX_VALUE);
+        return valueAt(nodes[ready].log, key, END_OF_TIME);
     }
 
     public boolean write(int t, int key, int value) {
