@@ -1,16 +1,8 @@
-import java.lang.reflect.Method;
-
-/**
- * Each promise of the document with short runs on new objects. A run is told as text: calls between semicolons,
- * each with the answer that is due; "12 x tick 1, beat 0" makes the same calls 12 times and looks at no answer.
- */
+/** Each promise of the document with short runs on new objects; Script says how a run is told. */
 public final class PromisesTest {
-    /** Node 0 and node 3 are ready, each with one BEAT that two logs have; with eps 0 at time 0 its stamp is 0. */
-    private static final String LEADERS = "elect 0 = 3; ship 0 1 = 1; elect 3 = 3; ship 3 4 = 1; ";
-    private static int wrong = 0;
-    private static int calls = 0;
+    private static final String LEADERS = Script.LEADERS;
 
-    public static void main(String[] args) throws Exception {
+    public static void main(String[] args) {
         constantsAndNewObject();
         clocks();
         crashes();
@@ -33,13 +25,10 @@ public final class PromisesTest {
         snapshots();
         safeTimes();
         lengthsKnownAndLeaders();
-        System.out.println(calls + " calls, " + wrong + " answers are not as due");
-        if (wrong != 0) {
-            System.exit(1);
-        }
+        Script.end();
     }
 
-    private static void constantsAndNewObject() throws Exception {
+    private static void constantsAndNewObject() {
         same("NONE", StampedStore.NONE, -1);
         same("OVER", StampedStore.OVER, -2);
         same("DOWN", StampedStore.DOWN, -3);
@@ -62,7 +51,7 @@ public final class PromisesTest {
         run("1: no leaders, no transactions", 5, "leader 0 = NONE; leader 1 = NONE; state 0 = NONE; begin = 0");
     }
 
-    private static void clocks() throws Exception {
+    private static void clocks() {
         run("2: the time grows", 5, "tick 1 = 1; tick 50 = 51; tick 7 = 58");
         run("2: wrong ticks change nothing", 5, "tick 3 = 3; tick 0 = NONE; tick -1 = NONE; tick 51 = NONE; "
             + "tick -2147483648 = NONE; tick 2147483647 = NONE; tick 1 = 4");
@@ -76,7 +65,7 @@ public final class PromisesTest {
         run("3: eps 0 leaves only 0", 0, "skew 5 0 = true; skew 5 1 = false; skew 5 -1 = false");
     }
 
-    private static void crashes() throws Exception {
+    private static void crashes() {
         run("4: a node that crashes leads no more", 5, "elect 0 = 3; ship 0 1 = 1; leader 0 = 0; crash 0 = true; "
             + "leader 0 = NONE; recover 0 = true; leader 0 = NONE; beat 0 = NONE; ship 0 1 = NONE");
         run("4: its log and what it knows survive", 5, "elect 0 = 3; ship 0 1 = 1; beat 0 = 6; crash 0 = true; "
@@ -91,7 +80,7 @@ public final class PromisesTest {
             + "elect 0 = 3; recover 0 = false; recover -1 = false; recover 6 = false");
     }
 
-    private static void elections() throws Exception {
+    private static void elections() {
         run("6: the epochs of nodes", 5, "elect 0 = 3; elect 0 = 6; elect 0 = 9; length 0 = 3");
         run("6: the epochs of nodes", 5, "elect 1 = 1; elect 1 = 4; elect 5 = 2; elect 5 = 5; length 5 = 2");
         run("6: the epochs of nodes", 5, "elect 2 = 2; elect 3 = 3; length 2 = 1; length 0 = 0; length 3 = 1");
@@ -117,7 +106,7 @@ public final class PromisesTest {
             + "beat 0 = NONE; ship 1 0 = 2; ship 0 1 = NONE; leader 0 = 1");
     }
 
-    private static void promisesOfNodes() throws Exception {
+    private static void promisesOfNodes() {
         run("6: a promise binds until its time is past", 5, "elect 1 = 1; elect 2 = 0; tick 50 = 50; elect 2 = 0; "
             + "tick 1 = 51; elect 2 = 2");
         run("6: by the skew of who promised", 5, "elect 0 = 3; crash 0 = true; skew 1 5 = true; skew 2 5 = true; "
@@ -139,7 +128,7 @@ public final class PromisesTest {
             + "elect 2 = 0; recover 1 = true; tick 41 = 41; elect 1 = 0; elect 1 = 0; elect 1 = 7");
     }
 
-    private static void logsBehind() throws Exception {
+    private static void logsBehind() {
         run("6: an empty log is behind", 0, "elect 0 = 3; ship 0 1 = 1; crash 0 = true; tick 41 = 41; elect 2 = 0; "
             + "elect 1 = 0; elect 1 = 0; tick 41 = 82; elect 1 = 10");
         run("6: a shorter log of the same epoch is behind", 0, "elect 0 = 3; ship 0 1 = 1; ship 0 2 = 1; beat 0 = 1; "
@@ -151,7 +140,7 @@ public final class PromisesTest {
         run("6: a log as long is not", 0, "elect 0 = 3; ship 0 1 = 1; crash 2 = true; tick 41 = 41; elect 1 = 4");
     }
 
-    private static void beats() throws Exception {
+    private static void beats() {
         run("7: the stamps of BEATs", 5, "elect 0 = 3; beat 0 = 6; tick 10 = 10; beat 0 = 15; beat 0 = 16; length 0 = 4");
         run("7: the lease gets longer", 5, "elect 0 = 3; ship 0 1 = 1; tick 20 = 20; beat 0 = 25; tick 29 = 49; "
             + "leader 0 = 0; tick 1 = 50; leader 0 = NONE; beat 0 = 55; leader 0 = 0");
@@ -176,6 +165,8 @@ public final class PromisesTest {
         run("7: FULL leaves the lease", 0, "elect 0 = 3; ship 0 1 = 1; 59 x tick 1, beat 0; length 0 = 60; tick 39 = 98; "
             + "leader 0 = 0; tick 1 = 99; leader 0 = NONE; beat 0 = FULL; leader 0 = 0; length 0 = 60; tick 39 = 138; "
             + "leader 0 = 0; tick 1 = 139; leader 0 = NONE");
+        run("7: FULL leaves the promises and the lease", 0, "elect 0 = 3; ship 0 1 = 1; 59 x tick 1, beat 0; tick 10 = 69; beat 0 = FULL; "
+            + "tick 39 = 108; leader 0 = 0; tick 1 = 109; leader 0 = NONE; elect 1 = 0; tick 1 = 110; elect 1 = 4");
         run("7: not active comes before FULL", 0, "elect 0 = 3; 59 x tick 1, beat 0; crash 1 = true; crash 2 = true; "
             + "tick 39 = 98; beat 0 = FULL; tick 1 = 99; beat 0 = LATE");
         run("7: LATE by the stamp", 10, "elect 3 = 3; 19 x beat 3; length 3 = 20; beat 3 = LATE; length 3 = 20; "
@@ -184,7 +175,7 @@ public final class PromisesTest {
             + "crash 0 = true; beat 0 = NONE; recover 0 = true; beat 0 = NONE; length 0 = 1");
     }
 
-    private static void ships() throws Exception {
+    private static void ships() {
         run("8: one entry a call", 0, "elect 0 = 3; beat 0 = 1; beat 0 = 2; ship 0 1 = 1; known 0 = 1; known 1 = 1; "
             + "ship 0 1 = 2; known 0 = 2; known 1 = 2; ship 0 2 = 1; known 2 = 1; known 0 = 2; ship 0 1 = 3; ship 0 1 = 3; "
             + "known 0 = 3; known 1 = 3; ship 0 2 = 2; known 2 = 2; length 2 = 2");
@@ -213,13 +204,13 @@ public final class PromisesTest {
             + "ship 0 1 = NONE; crash 0 = true; ship 0 2 = NONE; length 1 = 0; length 2 = 0");
     }
 
-    private static void begins() throws Exception {
+    private static void begins() {
         run("9: numbers", 0, "begin = 0; begin = 1; abort 0 = true; begin = 2; state 2 = 0; state 3 = NONE");
         run("9: not more than 16", 0, "15 x begin; begin = 15; begin = NONE; abort 3 = true; begin = NONE; state 15 = 0; "
             + "state 16 = NONE");
     }
 
-    private static void reads() throws Exception {
+    private static void reads() {
         run("10: refusals", 0, LEADERS + "read 0 0 = NONE; begin = 0; read -1 0 = NONE; read 1 0 = NONE; read 16 0 = NONE; "
             + "read 0 -1 = NONE; read 0 8 = NONE; abort 0 = true; read 0 8 = NONE; read 0 0 = OVER; begin = 1; commit 1 = 3; "
             + "read 1 0 = OVER");
@@ -250,7 +241,7 @@ public final class PromisesTest {
             + "read 0 0 = 0; read 0 5 = OVER; state 0 = 4");
     }
 
-    private static void writes() throws Exception {
+    private static void writes() {
         run("11: writes", 0, "begin = 0; write 0 0 0 = true; write 0 7 999 = true; read 0 0 = 0; read 0 7 = 999; "
             + "write 0 7 1 = true; read 0 7 = 1");
         run("11: refusals", 0, "write 0 0 1 = false; begin = 0; write -1 0 1 = false; write 1 0 1 = false; "
@@ -264,7 +255,7 @@ public final class PromisesTest {
             + "length 0 = 1");
     }
 
-    private static void commitsRefused() throws Exception {
+    private static void commitsRefused() {
         run("12: refusals", 0, "commit 0 = NONE; begin = 0; commit -1 = NONE; commit 1 = NONE; commit 16 = NONE; "
             + "commit 0 = 3; commit 0 = OVER; begin = 1; abort 1 = true; commit 1 = OVER; state 1 = 4");
         run("12: nothing read or written needs no node", 0, "begin = 0; commit 0 = 3; state 0 = 3; stamp 0 = 0");
@@ -298,7 +289,7 @@ public final class PromisesTest {
             + "commit 1 = WAIT; 59 x tick 1, beat 0; commit 1 = FULL");
     }
 
-    private static void commitsAndLocks() throws Exception {
+    private static void commitsAndLocks() {
         run("12: one group", 0, LEADERS + "begin = 0; write 0 4 1 = true; commit 0 = 2; length 3 = 2; length 0 = 1; "
             + "state 0 = 2; commit 0 = OVER");
         run("12: two groups", 0, LEADERS + "begin = 0; write 0 4 1 = true; write 0 0 1 = true; commit 0 = 1; length 3 = 2; "
@@ -332,7 +323,7 @@ public final class PromisesTest {
             + "read 0 6 = 0; write 1 0 1 = true; write 1 6 1 = true; commit 1 = WAIT; abort 0 = true; commit 1 = 1");
     }
 
-    private static void aborts() throws Exception {
+    private static void aborts() {
         run("13: abort", 0, LEADERS + "begin = 0; abort 0 = true; state 0 = 4; abort 0 = false; begin = 1; commit 1 = 3; "
             + "abort 1 = false; state 1 = 3; begin = 2; write 2 0 1 = true; commit 2 = 2; abort 2 = false; state 2 = 2; "
             + "abort -1 = false; abort 3 = false; abort 16 = false");
@@ -340,7 +331,7 @@ public final class PromisesTest {
             + "commit 1 = WAIT; abort 0 = true; commit 1 = 2");
     }
 
-    private static void stepsOfOneGroup() throws Exception {
+    private static void stepsOfOneGroup() {
         run("14: refusals, and nothing for an active one", 0, "step 0 = NONE; begin = 0; step 0 = 0; step -1 = NONE; "
             + "step 1 = NONE; step 16 = NONE; state 0 = 0");
         run("14: it waits its stamp out", 0, LEADERS + "begin = 0; write 0 0 1 = true; commit 0 = 2; step 0 = 2; "
@@ -359,7 +350,7 @@ public final class PromisesTest {
             + "step 0 = DOWN; ship 1 2 = 3; step 0 = 3; stamp 0 = 1; begin = 1; read 1 0 = 7");
     }
 
-    private static void stepsOfTwoGroups() throws Exception {
+    private static void stepsOfTwoGroups() {
         run("14: two phases", 0, LEADERS + "begin = 0; write 0 0 7 = true; write 0 4 8 = true; commit 0 = 1; step 0 = 1; "
             + "ship 0 1 = 2; step 0 = 1; ship 3 4 = 2; step 0 = 2; length 0 = 3; length 3 = 2; step 0 = 2; tick 3 = 3; step 0 = 2; "
             + "ship 0 1 = 3; step 0 = 3; stamp 0 = 2; length 3 = 2; step 0 = 3; length 3 = 3; length 0 = 3; step 0 = 3; "
@@ -384,7 +375,7 @@ public final class PromisesTest {
             + "state 0 = 1; 40 x tick 1, beat 0, beat 3; length 0 = 60; step 0 = FULL; state 0 = 1");
     }
 
-    private static void stepsThatLoseEntries() throws Exception {
+    private static void stepsThatLoseEntries() {
         run("14: a lost COMMIT of one group aborts", 0, LEADERS + "begin = 0; write 0 0 1 = true; commit 0 = 2; crash 0 = true; "
             + "tick 41 = 41; elect 1 = 4; step 0 = DOWN; ship 1 2 = 1; ship 1 2 = 2; step 0 = 4; state 0 = 4; stamp 0 = 0; "
             + "step 0 = 4; length 1 = 2; begin = 1; read 1 0 = 0");
@@ -402,7 +393,7 @@ public final class PromisesTest {
             + "begin = 1; read 1 0 = 0; safe 0 = 42");
     }
 
-    private static void outcomes() throws Exception {
+    private static void outcomes() {
         run("14: an OUTCOME has a stamp of its own and the one of the transaction", 0, LEADERS + "9 x beat 0; beat 0 = 10; begin = 0; "
             + "write 0 0 7 = true; write 0 4 8 = true; commit 0 = 1; ship 3 4 = 2; 11 x ship 0 1; length 1 = 12; step 0 = 2; "
             + "ship 0 1 = 13; tick 13 = 13; step 0 = 3; stamp 0 = 12; tick 10 = 23; step 0 = 3; length 3 = 3; ship 3 4 = 3; "
@@ -421,7 +412,7 @@ public final class PromisesTest {
             + "ship 4 5 = 1; ship 4 5 = 2; ship 4 5 = 3; step 0 = 3; length 4 = 4; ship 4 5 = 4; begin = 1; read 1 4 = 8");
     }
 
-    private static void statesAndStamps() throws Exception {
+    private static void statesAndStamps() {
         run("15: states", 0, LEADERS + "state -1 = NONE; state 0 = NONE; state 16 = NONE; begin = 0; state 0 = 0; "
             + "write 0 0 1 = true; write 0 4 1 = true; commit 0 = 1; state 0 = 1; ship 0 1 = 2; ship 3 4 = 2; step 0 = 2; "
             + "state 0 = 2; ship 0 1 = 3; tick 5 = 5; step 0 = 3; state 0 = 3; begin = 1; abort 1 = true; state 1 = 4");
@@ -431,7 +422,7 @@ public final class PromisesTest {
             + "stamp 2 = 0");
     }
 
-    private static void snapshots() throws Exception {
+    private static void snapshots() {
         String versions = "elect 3 = 3; ship 3 4 = 1; begin = 0; begin = 1; begin = 2; begin = 3; write 0 7 10 = true; "
             + "write 1 7 11 = true; write 2 7 12 = true; write 3 7 13 = true; commit 0 = 2; ship 3 4 = 2; tick 5 = 5; "
             + "commit 1 = 2; ship 3 4 = 3; tick 5 = 10; commit 2 = 2; ship 3 4 = 4; ";
@@ -448,7 +439,7 @@ public final class PromisesTest {
             + "snapshot 3 8 0 = NONE; snapshot 3 3 0 = NONE; snapshot 0 4 0 = NONE; snapshot 3 7 -1 = NONE; "
             + "snapshot 3 7 -2147483648 = NONE; snapshot 3 7 2147483647 = WAIT; crash 3 = true; snapshot 3 7 1 = NONE; "
             + "recover 3 = true; snapshot 3 7 1 = 10; snapshot 0 0 0 = WAIT");
-        run("17: WAIT before GONE cannot be seen, but a PREPARE makes wait", 0, LEADERS + "beat 0 = 1; beat 0 = 2; "
+        run("17: a PREPARE makes wait", 0, LEADERS + "beat 0 = 1; beat 0 = 2; "
             + "ship 0 1 = 2; ship 0 1 = 3; begin = 0; write 0 0 7 = true; write 0 4 8 = true; commit 0 = 1; ship 0 1 = 4; "
             + "snapshot 0 0 2 = 0; snapshot 0 0 3 = WAIT; snapshot 0 1 3 = WAIT; snapshot 1 0 2 = 0; snapshot 1 0 3 = WAIT; "
             + "ship 3 4 = 2; step 0 = 2; snapshot 0 0 3 = WAIT; ship 0 1 = 5; snapshot 0 0 3 = 0; snapshot 0 0 4 = 7; "
@@ -459,7 +450,7 @@ public final class PromisesTest {
             + "step 0 = 4; step 0 = 4; ship 3 4 = 3; ship 3 4 = 4; safe 3 = 42; snapshot 3 4 42 = 0; snapshot 4 4 1 = 0");
     }
 
-    private static void safeTimes() throws Exception {
+    private static void safeTimes() {
         run("18: refusals", 0, "safe -1 = NONE; safe 6 = NONE; safe 0 = NONE; elect 0 = 3; safe 0 = NONE; ship 0 1 = 1; "
             + "safe 0 = 0; safe 1 = 0; safe 2 = NONE");
         run("18: the last known entry", 5, "tick 7 = 7; elect 0 = 3; ship 0 1 = 1; safe 0 = 12; beat 0 = 13; safe 0 = 12; "
@@ -472,7 +463,7 @@ public final class PromisesTest {
             + "ship 3 4 = 5; safe 3 = 20; safe 4 = 20");
     }
 
-    private static void lengthsKnownAndLeaders() throws Exception {
+    private static void lengthsKnownAndLeaders() {
         run("19, 20: refusals", 0, "length -1 = NONE; length 6 = NONE; known -1 = NONE; known 6 = NONE; length 5 = 0; known 5 = 0");
         run("19, 20: of nodes that are down too", 0, "elect 3 = 3; beat 3 = 1; ship 3 5 = 1; crash 3 = true; crash 5 = true; "
             + "length 3 = 2; known 3 = 1; length 5 = 1; known 5 = 1; length 4 = 0; known 4 = 0");
@@ -485,68 +476,13 @@ public final class PromisesTest {
             + "leader 0 = NONE; skew 0 4 = true; leader 0 = 0");
     }
 
-    private static void run(String promise, int eps, String script) throws Exception {
-        StampedStore store = new StampedStore(eps);
-        for (String line : script.split(";")) {
-            String told = line.trim();
-            if (told.contains(" x ")) {
-                repeat(store, told);
-            } else {
-                String[] halves = told.split("=");
-                long got = call(store, halves[0].trim());
-                long due = number(halves[1].trim());
-                if (got != due) {
-                    wrong++;
-                    System.out.println(promise + ": " + halves[0].trim() + " answered " + got + ", due is " + due
-                        + " (eps " + eps + ": " + script + ")");
-                    return;
-                }
-            }
-        }
+    private static void run(String promise, int eps, String script) {
+        Script.run(promise, eps, script);
     }
 
-    private static void repeat(StampedStore store, String told) throws Exception {
-        String[] halves = told.split(" x ");
-        int times = Integer.parseInt(halves[0].trim());
-        for (int time = 0; time < times; time++) {
-            for (String one : halves[1].split(",")) {
-                call(store, one.trim());
-            }
-        }
-    }
-
-    private static long call(StampedStore store, String told) throws Exception {
-        calls++;
-        String[] words = told.split(" ");
-        Class<?>[] types = new Class<?>[words.length - 1];
-        Object[] arguments = new Object[words.length - 1];
-        for (int i = 1; i < words.length; i++) {
-            types[i - 1] = int.class;
-            arguments[i - 1] = Integer.valueOf(words[i]);
-        }
-        Method method = StampedStore.class.getMethod(words[0], types);
-        Object answer = method.invoke(store, arguments);
-        if (answer instanceof Boolean) {
-            return ((Boolean) answer) ? 1 : 0;
-        }
-        return (Integer) answer;
-    }
-
-    private static long number(String told) throws Exception {
-        if (told.equals("true") || told.equals("false")) {
-            return told.equals("true") ? 1 : 0;
-        }
-        if (Character.isLetter(told.charAt(0))) {
-            return StampedStore.class.getField(told).getInt(null);
-        }
-        return Long.parseLong(told);
-    }
-
-    private static void same(String what, long got, long due) {
-        calls++;
+    private static void same(String what, int got, int due) {
         if (got != due) {
-            wrong++;
-            System.out.println(what + " is " + got + ", due is " + due);
+            Script.wrong(what + " is " + got + ", due is " + due);
         }
     }
 }
